@@ -1,3 +1,4 @@
+import java.util.Arrays;
 import java.util.HashMap;
 import java.util.Map;
 
@@ -9,6 +10,7 @@ import java.util.Map;
 public final class ModelTest {
     private static final int RUNS = 4000;
     private static final int CALLS = 512;
+    private static final int CALLS_BEFORE_LOOK = 250;
     private static final int[] EDGES = {Integer.MIN_VALUE, -2, -1, 16, 17, 64, Integer.MAX_VALUE};
 
     private final CheckpointedStore real = new CheckpointedStore();
@@ -16,31 +18,66 @@ public final class ModelTest {
     private Map<String, String> open = null;
     private Map<String, String> settled = new HashMap<>();
     private final int nodes;
+    private final boolean seldomCheckpoints;
     private long seed;
 
     private ModelTest(int run) {
         seed = run * 7919L + 1;
         // Runs on few nodes make keys meet more often.
         nodes = run % 2 == 0 ? 16 : 3;
+        // Where snapshots, settling and crashes are seldom, many writings stand between them.
+        seldomCheckpoints = run / 2 % 2 == 1;
     }
 
     public static void main(String[] args) {
         int wrong = 0;
         for (int run = 0; run < RUNS && wrong < 20; run++) {
-            ModelTest test = new ModelTest(run);
-            for (int call = 0; call < CALLS; call++) {
-                String fault = test.nextCall();
-                if (fault != null) {
-                    wrong++;
-                    System.out.println("run " + run + ", call " + call + ": " + fault);
-                    break;
-                }
+            String fault = new ModelTest(run).run(run / 4 % 2 == 0 ? CALLS : CALLS_BEFORE_LOOK);
+            if (fault != null) {
+                wrong++;
+                System.out.println("run " + run + ", " + fault);
             }
         }
         System.out.println(wrong == 0 ? "all answers are as due" : wrong + " runs are not as due");
         if (wrong != 0) {
             System.exit(1);
         }
+    }
+
+    private String run(int calls) {
+        for (int call = 0; call < calls; call++) {
+            String fault = nextCall();
+            if (fault != null) {
+                return "call " + call + ": " + fault;
+            }
+        }
+        return calls == CALLS ? null : lookAtTheEnd();
+    }
+
+    /** The present store, and then what a crash leaves, every slot of them, within 512 calls in all. */
+    private String lookAtTheEnd() {
+        String fault = lookAtPresent();
+        if (fault == null && pick(2) == 0) {
+            fault = fault("settle", real.settle(), settle());
+        }
+        if (fault == null) {
+            crash();
+            fault = lookAtPresent();
+        }
+        return fault == null ? null : "at the end: " + fault;
+    }
+
+    private String lookAtPresent() {
+        String fault = null;
+        for (int cell = 0; cell < 64 && fault == null; cell++) {
+            int node = cell / 4;
+            int slot = cell % 4;
+            fault = fault("key", real.key(node, slot), key(node, slot), node, slot);
+            if (fault == null) {
+                fault = fault("number", real.number(node, slot), number(node, slot), node, slot);
+            }
+        }
+        return fault;
     }
 
     private int pick(int bound) {
@@ -53,7 +90,7 @@ public final class ModelTest {
     }
 
     private int pickSlot() {
-        return pick(25) == 0 ? EDGES[pick(EDGES.length)] : pick(8) == 0 ? pick(6) - 1 : pick(2) * 3;
+        return pick(25) == 0 ? EDGES[pick(EDGES.length)] : pick(3) == 0 ? pick(6) - 1 : pick(2) * 3;
     }
 
     private int pickValue() {
@@ -89,12 +126,8 @@ public final class ModelTest {
                 int steps = pick(24) - 3;
                 return fault("follow", real.follow(node, slot, steps), follow(node, slot, steps), node, slot, steps);
             }
-            case 12:
-                return fault("snapshot", real.snapshot(), snapshot());
-            case 13:
-                return fault("settle", real.settle(), settle());
-            case 14:
-                return crashOrIdle();
+            case 12: case 13: case 14:
+                return checkpointOrIdle();
             default:
                 return fault("keysTo", real.keysTo(node), keysTo(node), node);
         }
@@ -104,7 +137,7 @@ public final class ModelTest {
         if (got == want) {
             return null;
         }
-        return call + java.util.Arrays.toString(arguments) + " answered " + got + ", due is " + want;
+        return call + Arrays.toString(arguments) + " answered " + got + ", due is " + want;
     }
 
     private static boolean isNode(int node) {
@@ -179,15 +212,26 @@ public final class ModelTest {
         return 0;
     }
 
-    private String crashOrIdle() {
-        if (pick(3) == 0) {
-            real.crash();
-            present = new HashMap<>(settled);
-            open = null;
+    private String checkpointOrIdle() {
+        int kind = pick(seldomCheckpoints ? 45 : 9);
+        if (kind < 3) {
+            return fault("snapshot", real.snapshot(), snapshot());
+        }
+        if (kind < 6) {
+            return fault("settle", real.settle(), settle());
+        }
+        if (kind == 6) {
+            crash();
         } else {
             real.idle(pickValue());
         }
         return null;
+    }
+
+    private void crash() {
+        real.crash();
+        present = new HashMap<>(settled);
+        open = null;
     }
 
     private int keysTo(int node) {
