@@ -58,11 +58,15 @@ public final class BoundaryTest {
         Report.test("Promise 1: The fresh store, present and settled; no open snapshot", BoundaryTest::newObject);
         Report.test("Promise 1: A new object (beside another one)", BoundaryTest::objectsShareNothing);
         Report.test("Promise 2: The slot holds the number value", BoundaryTest::writeEveryValue);
+        Report.test("Promise 2: The slot holds the number value (near each power of two)",
+            BoundaryTest::writeNearPowersOfTwo);
         Report.test("Promise 3: -1 if refused (also if target is not a node number)", BoundaryTest::noTarget);
         Report.test("Promise 3: The slot holds a key to the node target", BoundaryTest::everyTarget);
         Report.test("Promise 4: a number copied onto its own slot", BoundaryTest::copyNumberOntoItself);
         Report.test("Promise 4: a key copied onto its own slot", BoundaryTest::copyKeyOntoItself);
         Report.test("Promise 4: holds what the slot of node holds (number or key)", BoundaryTest::copyOverEach);
+        Report.test("Promise 4: The slot toSlot of node to holds what the slot of node holds (each slot into each)",
+            BoundaryTest::copyEachIntoEach);
         Report.test("Promise 4: a copied slot is no link to the first one", BoundaryTest::copyIsNoLink);
         Report.test("Promise 5: Rescinds the node in the present store", BoundaryTest::rescindOnlyPresent);
     }
@@ -72,6 +76,7 @@ public final class BoundaryTest {
         Report.test("Promise 7: 0 if it holds a key", BoundaryTest::numberOfKey);
         Report.test("Promise 7: 0 if refused", BoundaryTest::numberRefused);
         Report.test("Promise 8: steps times in all", BoundaryTest::followEachCount);
+        Report.test("Promise 8: and so on (a row of nodes that runs into a ring)", BoundaryTest::followIntoRing);
         Report.test("Promise 8: by the key in the same slot of the node reached", BoundaryTest::followSameSlot);
         Report.test("Promise 8: steps below 0 is taken as 0", BoundaryTest::followBelowZero);
         Report.test("Promise 8: steps above 16 as 16", BoundaryTest::followAboveSixteen);
@@ -468,6 +473,37 @@ public final class BoundaryTest {
         }
     }
 
+    private static void writeNearPowersOfTwo() {
+        // A program that keeps numbers and keys in one int would have to take some of these for keys.
+        for (int bit = 0; bit <= 31; bit++) {
+            for (int near = -18; near <= 18; near++) {
+                dueWritten((1 << bit) + near);
+                dueWritten(-(1 << bit) + near);
+            }
+        }
+    }
+
+    private static void dueWritten(int value) {
+        Watched x = new Watched();
+        x.write(7, 2, value).due(0);
+        x.copy(7, 2, 8, 1).due(0);
+        for (int node = 0; node < Image.NODES; node++) {
+            x.keysTo(node).due(0);
+            if (node != 7 && node != 8) {
+                x.rescind(node).due(0);
+            }
+        }
+        x.dueNumber(7, 2, value);
+        x.dueNumber(8, 1, value);
+        x.follow(7, 2, 1).due(-2);
+        x.snapshot().due(0);
+        x.settle().due(0);
+        x.writeKey(7, 2, 3).due(0);
+        x.crash();
+        x.dueNumber(7, 2, value);
+        x.dueNumber(8, 1, value);
+    }
+
     private static void noTarget() {
         int[] noTargets = {LEAST, LEAST + 1, -65536, -17, -16, -3, -2, -1, 16, 17, 31, 32, 256, 65536, MOST - 1, MOST};
         inAllScenes(scene -> forEachSlot((node, slot) -> scene.unchangedBy(x -> {
@@ -540,6 +576,17 @@ public final class BoundaryTest {
                 scene.turnsBy(x -> x.copy(at[0], at[1], at[2], at[3]).due(0),
                     scene.present(image.copied(at[0], at[1], at[2], at[3])));
             }
+        }
+    }
+
+    private static void copyEachIntoEach() {
+        for (Image image : List.of(Image.mixed(3), Image.mixed(4))) {
+            forEachSlot((node, slot) -> forEachSlot((to, toSlot) -> {
+                Watched x = new Watched();
+                image.writeTo(x);
+                x.copy(node, slot, to, toSlot).due(0);
+                image.copied(node, slot, to, toSlot).dueIn(x);
+            }));
         }
     }
 
@@ -641,6 +688,22 @@ public final class BoundaryTest {
                     for (int node = 0; node < length; node++) {
                         x.follow(node, slot, steps).due((node + steps) % length);
                     }
+                }
+            }
+        }
+    }
+
+    private static void followIntoRing() {
+        for (int length = 1; length <= Image.NODES; length++) {
+            // All nodes stand in one row, and the last of them has the key to the first node of the ring.
+            for (int row = 0; row + length <= Image.NODES; row++) {
+                Watched x = new Watched();
+                for (int node = 0; node < row + length; node++) {
+                    x.writeKey(node, 2, node + 1 < row + length ? node + 1 : row).due(0);
+                }
+                for (int steps = 0; steps <= 18; steps++) {
+                    int taken = Math.min(steps, 16);
+                    x.follow(0, 2, steps).due(taken < row ? taken : row + (taken - row) % length);
                 }
             }
         }

@@ -92,12 +92,16 @@ final class Image {
     void writeTo(Watched x) {
         for (int node = 0; node < NODES; node++) {
             for (int slot = 0; slot < SLOTS; slot++) {
-                if (keyIn(node, slot) == NUMBER) {
-                    x.write(node, slot, numberIn(node, slot)).due(0);
-                } else {
-                    x.writeKey(node, slot, keyIn(node, slot)).due(0);
-                }
+                writeTo(x, node, slot);
             }
+        }
+    }
+
+    void writeTo(Watched x, int node, int slot) {
+        if (keyIn(node, slot) == NUMBER) {
+            x.write(node, slot, numberIn(node, slot)).due(0);
+        } else {
+            x.writeKey(node, slot, keyIn(node, slot)).due(0);
         }
     }
 
@@ -105,10 +109,15 @@ final class Image {
     void dueIn(Watched x) {
         for (int node = 0; node < NODES; node++) {
             for (int slot = 0; slot < SLOTS; slot++) {
-                x.key(node, slot).due(keyIn(node, slot));
-                x.number(node, slot).due(numberIn(node, slot));
+                dueIn(x, node, slot);
             }
         }
+    }
+
+    /** 2 calls. */
+    void dueIn(Watched x, int node, int slot) {
+        x.key(node, slot).due(keyIn(node, slot));
+        x.number(node, slot).due(numberIn(node, slot));
     }
 
     /** 16 calls. */
